@@ -30,6 +30,7 @@ public final class AffineInvariants {
     private int foundCount;
     private final boolean[] stateInSpan = new boolean[STATES];
     private final int[] spanSize = new int[POINTS];
+    // Some triple of the span; it tells nothing while the span is empty.
     private final int[] spanOrigin = new int[POINTS];
 
     public AffineInvariants() {
@@ -244,7 +245,6 @@ public final class AffineInvariants {
     private void findSpans() {
         for (int point = 0; point < POINTS; point++) {
             spanSize[point] = 0;
-            spanOrigin[point] = 0;
         }
         for (int state = 0; state < STATES; state++) {
             stateInSpan[state] = false;

@@ -1,12 +1,14 @@
 import java.util.ArrayList;
+import java.util.Arrays;
 import java.util.List;
+import java.util.stream.IntStream;
 
 /**
  * Long runs of calls, made from fixed seeds, against a slow reference that follows the document's
  * terms word by word (no affine algebra: the span is tried triple by triple, equation by equation).
  */
 public final class ReferenceTest {
-    private static final int RUNS = 150;
+    private static final int RUNS = 40;
     private static final int CALLS = 500;
 
     private static int wrong = 0;
@@ -39,10 +41,6 @@ public final class ReferenceTest {
         private final boolean[][] equations = new boolean[8][2401];
         private final boolean[][] span = new boolean[8][343];
 
-        Reference() {
-            find();
-        }
-
         int add(int ends, boolean numbersAreGood, int... step) {
             if (ends < 0 || ends > 63) {
                 return -1;
@@ -54,7 +52,6 @@ public final class ReferenceTest {
                 return -3;
             }
             steps.add(step);
-            find();
             return steps.size() - 1;
         }
 
@@ -63,22 +60,22 @@ public final class ReferenceTest {
                 return -4;
             }
             steps.remove(steps.size() - 1);
-            find();
             return steps.size();
         }
 
         void clear() {
             steps.clear();
-            find();
         }
 
-        private void find() {
+        /** To be called ahead of the reading calls: it is slow, so not after every change. */
+        void find() {
             findStates();
             for (int point = 0; point < 8; point++) {
+                int[] here = reachedAt(point);
                 for (int e = 0; e < 2401; e++) {
                     equations[point][e] = true;
-                    for (int t = 0; t < 343 && equations[point][e]; t++) {
-                        equations[point][e] = !states[point][t] || keeps(t, e);
+                    for (int i = 0; i < here.length && equations[point][e]; i++) {
+                        equations[point][e] = keeps(here[i], e);
                     }
                 }
                 for (int t = 0; t < 343; t++) {
@@ -90,6 +87,10 @@ public final class ReferenceTest {
             }
         }
 
+        private int[] reachedAt(int point) {
+            return IntStream.range(0, 343).filter(t -> states[point][t]).toArray();
+        }
+
         private static boolean keeps(int t, int e) {
             int x = t % 7;
             int y = t / 7 % 7;
@@ -99,7 +100,7 @@ public final class ReferenceTest {
 
         private void findStates() {
             for (boolean[] atPoint : states) {
-                java.util.Arrays.fill(atPoint, false);
+                Arrays.fill(atPoint, false);
             }
             states[0][0] = true;
             boolean changed = true;
@@ -261,9 +262,8 @@ public final class ReferenceTest {
         due("loosest()", it.loosest(), is.loosest());
     }
 
-    /** Every answer there is, once at the end of a run: the object's 512 calls are over by then,
-        so this is asked of a new object that was given the same steps. */
-    private static void askAll(Reference is) {
+    /** A new object with the steps of the reference, as an object has 512 calls alone. */
+    private static AffineInvariants again(Reference is) {
         AffineInvariants it = new AffineInvariants();
         for (int[] s : is.steps) {
             if (s.length == 1) {
@@ -274,11 +274,19 @@ public final class ReferenceTest {
                 it.assign(s[0], s[1], s[2]);
             }
         }
-        told.add("a new object with the same steps");
+        return it;
+    }
+
+    private static void askAll(Reference is) {
         for (int p = 0; p < 8; p++) {
+            AffineInvariants it = again(is);
             for (int e = 0; e < 2401; e++) {
+                if (e % 490 == 0) {
+                    it = again(is);
+                }
                 due("holds(" + p + ", " + e + ")", it.holds(p, e) ? 1 : 0, is.equations[p][e] ? 1 : 0);
             }
+            it = again(is);
             for (int t = 0; t < 343; t++) {
                 due("inSpan(" + p + ", " + t + ")", it.inSpan(p, t) ? 1 : 0, is.span[p][t] ? 1 : 0);
             }
@@ -295,11 +303,14 @@ public final class ReferenceTest {
             Reference is = new Reference();
             while (told.size() < CALLS) {
                 change(it, is, points);
-                if (next(2) == 0) {
+                if (next(3) == 0) {
+                    is.find();
                     ask(it, is);
+                    spans[Reference.count(is.span[next(points)])]++;
                 }
-                spans[Reference.count(is.span[next(points)])]++;
             }
+            is.find();
+            told.add("and on new objects with the same steps");
             askAll(is);
         }
         System.out.println("spans of 0, 1, 7, 49, 343 seen: " + spans[0] + " " + spans[1] + " " + spans[7] + " "
