@@ -90,6 +90,17 @@ public final class EdgesTest {
         return Arrays.copyOf(TWELVE_STEPS, count);
     }
 
+    private static String spans(AffineInvariants it) {
+        StringBuilder text = new StringBuilder();
+        for (int point = 0; point < 8; point++) {
+            text.append(' ').append(it.span(point));
+            for (int variable = 0; variable < 3; variable++) {
+                text.append(' ').append(it.constant(point, variable));
+            }
+        }
+        return text.toString();
+    }
+
     /** What the object answers, then again after each drop until none is left: at most 470 calls. */
     private static String picture(AffineInvariants it) {
         StringBuilder text = new StringBuilder();
@@ -99,12 +110,7 @@ public final class EdgesTest {
         text.append(it.loosest());
         int left = 0;
         for (int drops = 0; left != NONE && drops < 14; drops++) {
-            for (int point = 0; point < 8; point++) {
-                text.append(' ').append(it.span(point));
-                for (int variable = 0; variable < 3; variable++) {
-                    text.append(' ').append(it.constant(point, variable));
-                }
-            }
+            text.append(spans(it));
             left = it.drop();
             text.append(" left ").append(left);
         }
@@ -171,16 +177,9 @@ public final class EdgesTest {
         sentence = "the pictures";
         List<String> seen = new ArrayList<>();
         for (int count = 0; count <= 12; count++) {
-            AffineInvariants it = made(first(count));
-            StringBuilder text = new StringBuilder();
-            for (int point = 0; point < 8; point++) {
-                text.append(it.span(point)).append(' ');
-                for (int variable = 0; variable < 3; variable++) {
-                    text.append(it.constant(point, variable)).append(' ');
-                }
-            }
-            due("the picture of " + count + " steps was seen before:", seen.contains(text.toString()), false);
-            seen.add(text.toString());
+            String spans = spans(made(first(count)));
+            due("the picture of " + count + " steps was seen before:", seen.contains(spans), false);
+            seen.add(spans);
         }
     }
 
@@ -595,13 +594,12 @@ public final class EdgesTest {
         }
         due("drop() of none", it.drop(), NONE);
         noSteps(it);
-        // It is the last that goes: the first, which alone leads to point 1, stays to the end.
+        // It is the last that goes, and nothing that it alone had reached stays.
         it = made(TWELVE_STEPS);
         for (int left = 11; left >= 0; left--) {
-            due("reached(1) with " + (left + 1), it.reached(1), true);
             it.drop();
+            due("spans and constants with " + left + " left", spans(it), spans(made(first(left))));
         }
-        due("reached(1) with 0", it.reached(1), false);
         // What took the place of a dropped step is followed, and not the dropped one.
         it = made(ELEVEN_STEPS);
         it.pass(ends(0, 7));
