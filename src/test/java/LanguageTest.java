@@ -34,8 +34,9 @@ import javax.tools.StandardJavaFileManager;
 import javax.tools.ToolProvider;
 
 /**
- * What of the rules of LANGUAGE.md can be seen in the source (to be run from the project's root). That no
- * call throws or fails to end (7) is left to the tests that call, and the public face to FaceTest.
+ * Most of what the rules of LANGUAGE.md ask of the source (to be run from the project's root). Not seen here:
+ * arrays that are compared or renamed in a loop (4), a counter that its loop's body changes (8), and that no
+ * call throws or fails to end (7), which is left to the tests that call. The public face is FaceTest's.
  */
 public final class LanguageTest {
     private static final Path SOURCE = Path.of("src/main/java/AffineInvariants.java");
