@@ -150,6 +150,7 @@ public final class EdgesTest {
         termsUnknown();
         termsEquationHolds();
         termsCalls();
+        termsLastCall();
         newObject();
         assignEdges();
         forgetEdges();
@@ -468,6 +469,52 @@ public final class EdgesTest {
             due("drop() in round " + round, it.drop(), NONE);
         }
         due("the call 512: span(0)", it.span(0), 1);
+    }
+
+    /** The program after 511 calls, in which every kind of call has been made, also refused ones. */
+    private static AffineInvariants usedForAllCallsButOne(int[][] program) {
+        AffineInvariants it = new AffineInvariants();
+        for (int round = 0; round < 49; round++) {
+            add(it, TWELVE_STEPS[round % 12]);
+            it.assign(64, 0, 0);
+            it.forget(ends(0, 7), 2);
+            it.span(round % 8);
+            it.equations(round % 8);
+            it.implies(0, round % 8);
+            it.inSpan(7, round);
+            it.constant(7, 2);
+            it.holds(round % 8, 49 * round);
+            if (round % 2 == 0) {
+                it.drop();
+            } else {
+                it.loosest();
+            }
+        }
+        it.clear();
+        for (int[] step : program) {
+            add(it, step);
+        }
+        for (int calls = 49 * 10 + 1 + program.length; calls < 511; calls++) {
+            it.reached(calls % 8);
+        }
+        return it;
+    }
+
+    private static void termsLastCall() {
+        sentence = "An object is used for at most 512 calls, and each may be the last";
+        List<ToIntFunction<AffineInvariants>> calls = List.of(it -> it.assign(0, 0, 0), it -> it.assign(0, 3, 0),
+                it -> it.forget(63, 2), it -> it.forget(64, 2), it -> it.pass(1), it -> it.pass(-1),
+                it -> it.drop(), it -> it.equations(6), it -> it.span(5), it -> it.constant(2, 1),
+                it -> it.loosest(), it -> it.reached(7) ? 1 : 0, it -> it.holds(6, 0) ? 1 : 0,
+                it -> it.holds(6, 343) ? 1 : 0, it -> it.inSpan(5, 0) ? 1 : 0, it -> it.inSpan(0, 7) ? 1 : 0,
+                it -> it.implies(1, 0) ? 1 : 0, it -> it.implies(1, 1) ? 1 : 0);
+        for (int[][] program : PROGRAMS) {
+            for (int call = 0; call < calls.size(); call++) {
+                int got = calls.get(call).applyAsInt(usedForAllCallsButOne(program));
+                int want = calls.get(call).applyAsInt(made(program));
+                due("as its 512th call the call " + call + " of the list", got, want);
+            }
+        }
     }
 
     private static void noSteps(AffineInvariants it) {

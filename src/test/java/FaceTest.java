@@ -55,10 +55,21 @@ public final class FaceTest {
         Class<?> type = AffineInvariants.class;
         Set<String> lines = new TreeSet<>();
         lines.add(Modifier.toString(type.getModifiers()) + " class " + type.getName());
+        // Members of these could be seen from outside as well.
+        if (type.getSuperclass() != Object.class) {
+            lines.add("extends " + type.getSuperclass());
+        }
+        for (Class<?> other : type.getInterfaces()) {
+            lines.add("implements " + other);
+        }
+        for (Class<?> nested : type.getDeclaredClasses()) {
+            lines.add("within it " + nested);
+        }
         for (Field field : type.getDeclaredFields()) {
             if (!Modifier.isPrivate(field.getModifiers())) {
+                boolean isStatic = Modifier.isStatic(field.getModifiers());
                 lines.add(Modifier.toString(field.getModifiers()) + " " + field.getType() + " "
-                        + field.getName() + " = " + field.get(null));
+                        + field.getName() + (isStatic ? " = " + field.get(null) : ""));
             }
         }
         for (Constructor<?> made : type.getDeclaredConstructors()) {

@@ -1,7 +1,10 @@
+import com.sun.source.tree.ArrayAccessTree;
 import com.sun.source.tree.ArrayTypeTree;
+import com.sun.source.tree.AssignmentTree;
 import com.sun.source.tree.BinaryTree;
 import com.sun.source.tree.ClassTree;
 import com.sun.source.tree.CompilationUnitTree;
+import com.sun.source.tree.CompoundAssignmentTree;
 import com.sun.source.tree.DoWhileLoopTree;
 import com.sun.source.tree.ExpressionTree;
 import com.sun.source.tree.ForLoopTree;
@@ -12,6 +15,8 @@ import com.sun.source.tree.MethodTree;
 import com.sun.source.tree.NewArrayTree;
 import com.sun.source.tree.Tree;
 import com.sun.source.tree.Tree.Kind;
+import com.sun.source.tree.TypeCastTree;
+import com.sun.source.tree.UnaryTree;
 import com.sun.source.tree.VariableTree;
 import com.sun.source.tree.WhileLoopTree;
 import com.sun.source.util.JavacTask;
@@ -34,9 +39,10 @@ import javax.tools.StandardJavaFileManager;
 import javax.tools.ToolProvider;
 
 /**
- * Most of what the rules of LANGUAGE.md ask of the source (to be run from the project's root). Not seen here:
- * arrays that are compared or renamed in a loop (4), a counter that its loop's body changes (8), and that no
- * call throws or fails to end (7), which is left to the tests that call. The public face is FaceTest's.
+ * What the rules of LANGUAGE.md ask of the source (to be run from the project's root), in places more strictly:
+ * an array is made where its field is declared and then only indexed, loops are for loops, and a divisor is a
+ * constant. Not seen here: that every index lies inside its array (7), which is left to the tests that call. The
+ * public face (1) is FaceTest's.
  */
 public final class LanguageTest {
     private static final Path SOURCE = Path.of("src/main/java/AffineInvariants.java");
@@ -55,7 +61,8 @@ public final class LanguageTest {
     private static SourcePositions positions;
     private static final Map<String, MethodTree> methods = new HashMap<>();
     private static final Map<String, Set<String>> calls = new HashMap<>();
-    private static final Set<String> constants = new HashSet<>();
+    private static final Set<String> positive = new HashSet<>();
+    private static final Set<String> arrays = new HashSet<>();
 
     private static long line(long position) {
         return unit.getLineMap().getLineNumber(position);
@@ -114,8 +121,13 @@ public final class LanguageTest {
         if (member instanceof MethodTree method) {
             String name = method.getName().toString();
             keep(1, methods.put(name, method) == null, method, "two methods named " + name);
-        } else if (member instanceof VariableTree field && isStatic(field)) {
-            constants.add(field.getName().toString());
+        } else if (member instanceof VariableTree field) {
+            String name = field.getName().toString();
+            if (field.getType() instanceof ArrayTypeTree) {
+                arrays.add(name);
+            } else if (isStatic(field) && isPositive(field.getInitializer())) {
+                positive.add(name);
+            }
         }
     }
 
@@ -123,9 +135,16 @@ public final class LanguageTest {
         return field.getModifiers().getFlags().contains(Modifier.STATIC);
     }
 
-    private static boolean isConstant(ExpressionTree length) {
-        return length instanceof LiteralTree
-                || length instanceof IdentifierTree name && constants.contains(name.getName().toString());
+    private static boolean isPositive(ExpressionTree number) {
+        if (number instanceof LiteralTree literal) {
+            return literal.getValue() instanceof Integer value && value > 0;
+        }
+        return number instanceof IdentifierTree name && positive.contains(name.getName().toString());
+    }
+
+    private static boolean isLiteral(ExpressionTree number) {
+        boolean isNegative = number != null && number.getKind() == Kind.UNARY_MINUS;
+        return (isNegative ? ((UnaryTree) number).getExpression() : number) instanceof LiteralTree;
     }
 
     private static void keepField(VariableTree field) {
@@ -134,11 +153,12 @@ public final class LanguageTest {
         if (isStatic(field)) {
             String type = field.getType().toString();
             boolean isFinal = field.getModifiers().getFlags().contains(Modifier.FINAL);
-            keep(5, isFinal && (type.equals("int") || type.equals("long")), field, name + " is no constant number");
+            boolean isNumber = (type.equals("int") || type.equals("long")) && isLiteral(field.getInitializer());
+            keep(5, isFinal && isNumber, field, name + " is no constant number");
         }
         if (field.getType() instanceof ArrayTypeTree) {
             boolean made = field.getInitializer() instanceof NewArrayTree array && array.getInitializers() == null
-                    && array.getDimensions().size() == 1 && isConstant(array.getDimensions().get(0));
+                    && array.getDimensions().size() == 1 && isPositive(array.getDimensions().get(0));
             keep(4, made, field, name + " is not made with a constant length where it is declared");
             boolean isFinal = field.getModifiers().getFlags().contains(Modifier.FINAL);
             keep(4, isFinal, field, name + " could be assigned to");
@@ -152,18 +172,25 @@ public final class LanguageTest {
         keep(2, TYPES.contains(of.toString()), type, "the type " + type);
     }
 
+    private static void keepNumber(VariableTree variable) {
+        keepType(variable.getType());
+        keep(4, !(variable.getType() instanceof ArrayTypeTree), variable, variable.getName() + " names an array");
+    }
+
     private static void keepMethod(MethodTree method) {
         String name = method.getName().toString();
         if (method.getReturnType() != null && !method.getReturnType().toString().equals("void")) {
             keepType(method.getReturnType());
             keep(4, !(method.getReturnType() instanceof ArrayTypeTree), method, name + " answers an array");
         }
+        Set<Modifier> flags = method.getModifiers().getFlags();
+        keep(6, !flags.contains(Modifier.SYNCHRONIZED), method, name + " is synchronized");
         keep(10, method.getParameters().size() <= MOST_PARAMETERS, method, name + " has too many parameters");
         long lines = line(positions.getEndPosition(unit, method)) - line(positions.getStartPosition(unit, method)) + 1;
         keep(10, lines <= MOST_LINES, method, name + " has " + lines + " lines");
         calls.put(name, new TreeSet<>());
         for (VariableTree parameter : method.getParameters()) {
-            keepType(parameter.getType());
+            keepNumber(parameter);
         }
         keepBody(method.getBody(), name);
     }
@@ -180,8 +207,41 @@ public final class LanguageTest {
 
             @Override
             public Void visitVariable(VariableTree variable, Boolean inArguments) {
-                keepType(variable.getType());
+                keepNumber(variable);
                 return super.visitVariable(variable, inArguments);
+            }
+
+            @Override
+            public Void visitTypeCast(TypeCastTree cast, Boolean inArguments) {
+                keepType(cast.getType());
+                return super.visitTypeCast(cast, inArguments);
+            }
+
+            @Override
+            public Void visitArrayAccess(ArrayAccessTree place, Boolean inArguments) {
+                keep(4, isArray(place.getExpression()), place, place.getExpression() + " is no array of the fields");
+                return scan(place.getIndex(), inArguments);
+            }
+
+            @Override
+            public Void visitIdentifier(IdentifierTree name, Boolean inArguments) {
+                keep(4, !isArray(name), name, "the array " + name + " is not indexed");
+                return super.visitIdentifier(name, inArguments);
+            }
+
+            @Override
+            public Void visitBinary(BinaryTree both, Boolean inArguments) {
+                boolean divides = both.getKind() == Kind.DIVIDE || both.getKind() == Kind.REMAINDER;
+                keep(7, !divides || isPositive(both.getRightOperand()), both, "a divisor that is no constant");
+                return super.visitBinary(both, inArguments);
+            }
+
+            @Override
+            public Void visitCompoundAssignment(CompoundAssignmentTree change, Boolean inArguments) {
+                boolean divides = change.getKind() == Kind.DIVIDE_ASSIGNMENT
+                        || change.getKind() == Kind.REMAINDER_ASSIGNMENT;
+                keep(7, !divides || isPositive(change.getExpression()), change, "a divisor that is no constant");
+                return super.visitCompoundAssignment(change, inArguments);
             }
 
             @Override
@@ -221,7 +281,7 @@ public final class LanguageTest {
         }.scan(body, false);
     }
 
-    /** One counter that grows by one, held against a bound by the first part of the condition. */
+    /** One counter that grows by one, at the loop's head alone, held against a bound by the condition's first part. */
     private static boolean isBounded(ForLoopTree loop) {
         if (loop.getInitializer().size() != 1 || loop.getUpdate().size() != 1 || loop.getCondition() == null
                 || !(loop.getInitializer().get(0) instanceof VariableTree counter)) {
@@ -233,7 +293,40 @@ public final class LanguageTest {
         }
         return first instanceof BinaryTree test && test.getKind() == Kind.LESS_THAN
                 && test.getLeftOperand().toString().equals(counter.getName().toString())
-                && loop.getUpdate().get(0).toString().equals(counter.getName() + "++;");
+                && loop.getUpdate().get(0).toString().equals(counter.getName() + "++;")
+                && !changed(loop.getStatement()).contains(counter.getName().toString());
+    }
+
+    private static Set<String> changed(Tree body) {
+        Set<String> names = new HashSet<>();
+        new TreeScanner<Void, Void>() {
+            @Override
+            public Void visitAssignment(AssignmentTree change, Void nothing) {
+                names.add(change.getVariable().toString());
+                return super.visitAssignment(change, nothing);
+            }
+
+            @Override
+            public Void visitCompoundAssignment(CompoundAssignmentTree change, Void nothing) {
+                names.add(change.getVariable().toString());
+                return super.visitCompoundAssignment(change, nothing);
+            }
+
+            @Override
+            public Void visitUnary(UnaryTree change, Void nothing) {
+                boolean isOnlyRead = Set.of(Kind.UNARY_MINUS, Kind.UNARY_PLUS, Kind.BITWISE_COMPLEMENT,
+                        Kind.LOGICAL_COMPLEMENT).contains(change.getKind());
+                if (!isOnlyRead) {
+                    names.add(change.getExpression().toString());
+                }
+                return super.visitUnary(change, nothing);
+            }
+        }.scan(body, null);
+        return names;
+    }
+
+    private static boolean isArray(ExpressionTree name) {
+        return name instanceof IdentifierTree && arrays.contains(name.toString());
     }
 
     /** How many methods stand in the longest chain of calls that begins with this one. */
