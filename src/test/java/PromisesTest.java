@@ -1,3 +1,5 @@
+import java.util.Arrays;
+
 /** For each promise of the document: ordinary inputs, the edges it names, and wrong inputs. */
 public final class PromisesTest {
     private static final int BAD_POINT = -1;
@@ -69,6 +71,7 @@ public final class PromisesTest {
         spanIsMoreThanWhatIsReached();
         inSpan();
         lineThroughTwoStates();
+        planeThroughThreeStates();
         constant();
         implies();
         loosest();
@@ -468,6 +471,60 @@ public final class PromisesTest {
                 for (int u = 0; u < 343; u++) {
                     due("inSpan(7, " + u + ") of " + s + " and " + t, it.inSpan(7, u), on[u]);
                 }
+            }
+        }
+    }
+
+    private static int leftSide(int abc, int t) {
+        return (abc % 7 * (t % 7) + abc / 7 % 7 * (t / 7 % 7) + abc / 49 * (t / 49)) % 7;
+    }
+
+    /** The span of a point where these states alone are reached, by the document's words. */
+    private static boolean[] spanOf(int... states) {
+        boolean[] within = new boolean[343];
+        Arrays.fill(within, true);
+        for (int abc = 0; abc < 343; abc++) {
+            int d = leftSide(abc, states[0]);
+            boolean holds = true;
+            for (int state : states) {
+                holds &= leftSide(abc, state) == d;
+            }
+            for (int t = 0; t < 343; t++) {
+                within[t] &= !holds || leftSide(abc, t) == d;
+            }
+        }
+        return within;
+    }
+
+    private static void spanAsDue(AffineInvariants it, String states, boolean[] want) {
+        int count = 0;
+        for (int u = 0; u < 343; u++) {
+            due("inSpan(7, " + u + ") of " + states, it.inSpan(7, u), want[u]);
+            count += want[u] ? 1 : 0;
+        }
+        due("span(7) of " + states, it.span(7), count);
+    }
+
+    private static AffineInvariants threeStates(int s, int t, int u) {
+        AffineInvariants it = new AffineInvariants();
+        leadToSeven(it, s, 1, 2);
+        leadToSeven(it, t, 3, 4);
+        leadToSeven(it, u, 5, 6);
+        return it;
+    }
+
+    private static void planeThroughThreeStates() {
+        promise = 11;
+        // The first two pairs lie on the line through the first triple and the last, the third on one
+        // through the last alone: a walk over all triples must not end ahead of it.
+        int[][] pairs = {{0, 57}, {342, 171}, {105, 18}, {1, 58}, {300, 77}};
+        for (int[] pair : pairs) {
+            for (int u = 0; u < 343; u++) {
+                String states = pair[0] + ", " + pair[1] + ", " + u;
+                spanAsDue(threeStates(pair[0], pair[1], u), states, spanOf(pair[0], pair[1], u));
+                AffineInvariants it = threeStates(pair[0], pair[1], u);
+                it.pass(ends(0, 7));
+                spanAsDue(it, states + ", 0", spanOf(pair[0], pair[1], u, 0));
             }
         }
     }
